@@ -10,6 +10,7 @@ public final class MovesTest {
         tax();
         fewest();
         undo();
+        undoOfMany();
         images();
         count();
         Check.end();
@@ -92,6 +93,7 @@ public final class MovesTest {
         taxed("0-5", 40, 40);
         taxed("1/0", 40, 40);
         taxed("where/9*2", 40, 32);
+        taxed("deed+1", 40, 36);
         HalfCitizen x = Check.told("man a 0 west left 40;");
         x.go(24);
         Check.due("no tax", x.look(0, 4), 40);
@@ -165,6 +167,40 @@ public final class MovesTest {
         Check.due("undo a freeing", x.undo(), 0);
         Check.due("all seized", x.look(0, 6), 15);
         Check.due("all coin", x.look(0, 4), 10);
+    }
+
+    /** The oldest is given up, whatever it was. */
+    private static void undoOfMany() {
+        HalfCitizen x = Check.told("man a 2 north left 30;man b 5 west left 40;law bind 1;law may 0;fine 5;"
+                + "deed a lhand hold 0;deed a rhand hold 0;deed b lfoot hold 0;deed b rfoot hold 0;");
+        x.go(1);
+        for (int i = 0; i < 3; i++) {
+            x.move(0, 5);
+            x.move(1, 4);
+        }
+        x.free(0, 0);
+        x.free(1, 3);
+        x.move(1, 2);
+        x.free(0, 1);
+        for (int i = 0; i < 7; i++) {
+            x.move(0, 0);
+            x.move(1, 1);
+        }
+        x.free(1, 2);
+        Check.due("twenty of 25", x.count(13), 20);
+        for (int left = 19; left >= 0; left--) {
+            Check.due("undo", x.undo(), left);
+        }
+        Check.due("five moves stay", x.count(14), 5);
+        Check.due("three steps of a", x.look(0, 0), 5);
+        Check.due("two steps of b", x.look(1, 0), 3);
+        Check.due("faces of a", x.look(0, 1), 0);
+        Check.due("faces of b", x.look(1, 1), 3);
+        Check.due("hands of b", x.look(1, 2), 0);
+        Check.due("seized of a", x.look(0, 6), 3);
+        Check.due("seized of b", x.look(1, 6), 12);
+        Check.due("coin of a", x.look(0, 4), 20);
+        Check.due("coin of b", x.look(1, 4), 30);
     }
 
     private static void images() {

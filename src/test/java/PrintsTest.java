@@ -7,6 +7,7 @@ public final class PrintsTest {
         whose();
         strikes();
         known();
+        distances();
         Check.end();
     }
 
@@ -71,6 +72,63 @@ public final class PrintsTest {
         Check.due("and that strike, too", x.whose(), 2);
         x.strike(1);
         Check.due("nothing is left", x.whose(), 7);
+    }
+
+    /**
+     * All four parts of a state printed, then all four of another one: a man can be behind both if, and only if, there
+     * is time enough for the moves between his first state and states that look like them.
+     */
+    private static void distances() {
+        String[] faces = {"north", "east", "south", "west"};
+        for (int face = 0; face < 4; face++) {
+            int start = 2 * 16 + face * 4;
+            for (int one = 16; one < 64; one += 3) {
+                for (int other = 16; other < 64; other += 5) {
+                    for (int time = 0; time < 5; time++) {
+                        HalfCitizen x = Check.told("street 5;man a 2 " + faces[face] + " left 0;");
+                        int first = 1 + time % 3;
+                        printAll(x, first, one);
+                        printAll(x, first + time, other);
+                        Check.due("from " + start + " by " + one + " to " + other + " within " + first + " and " + time,
+                                x.whose(), reaches(start, one, first, other, time) ? 1 : 0);
+                    }
+                }
+            }
+        }
+    }
+
+    private static void printAll(HalfCitizen x, int time, int state) {
+        for (int part = 0; part < 4; part++) {
+            x.print(time, part, place(state, part));
+        }
+    }
+
+    private static int place(int state, int part) {
+        int face = state / 4 % 4;
+        int cross = part < 2 ? state / 2 % 2 : state % 2;
+        int right = (part + cross + face / 2) % 2;
+        return state / 16 + (face % 2 == 1 ? 0 : 2 * right - 1);
+    }
+
+    private static boolean reaches(int start, int one, int first, int other, int time) {
+        for (int s = 0; s < 80; s++) {
+            for (int t = 0; t < 80; t++) {
+                if (alike(s, one) && alike(t, other) && apart(start, s) <= first && apart(s, t) <= time) {
+                    return true;
+                }
+            }
+        }
+        return false;
+    }
+
+    private static boolean alike(int s, int t) {
+        return place(s, 0) == place(t, 0) && place(s, 1) == place(t, 1) && place(s, 2) == place(t, 2)
+                && place(s, 3) == place(t, 3);
+    }
+
+    private static int apart(int s, int t) {
+        int turns = Math.abs(s / 4 % 4 - t / 4 % 4);
+        return Math.abs(s / 16 - t / 16) + Math.min(turns, 4 - turns) + (s / 2 % 2 ^ t / 2 % 2) + (s % 2 ^ t % 2);
     }
 
     private static void known() {

@@ -6,6 +6,8 @@ public final class TextTest {
         newObject();
         feed();
         text();
+        cut();
+        again();
         places();
         lineFaults();
         tooMuch();
@@ -82,6 +84,54 @@ public final class TextTest {
         Check.due("the first line alone", x.text(7), 1);
     }
 
+    /** What stands on the tape behind the first n bytes is no part of the text. */
+    private static void cut() {
+        String[] texts = {"streets", "fine 55;", "law tax 1<=2;", "law tax 1<>2;", "fine 5;"};
+        int[] lengths = {6, 6, 10, 10, 6};
+        for (int i = 0; i < texts.length; i++) {
+            HalfCitizen x = new HalfCitizen();
+            Check.feed(x, texts[i]);
+            Check.due("cut " + texts[i], x.text(lengths[i]), -1);
+            Check.due("fault of cut " + texts[i], x.fault(0), 1);
+            Check.due("place of cut " + texts[i], x.fault(1), lengths[i]);
+        }
+    }
+
+    /** One text behind another: nothing of those ahead is left. */
+    private static void again() {
+        HalfCitizen x = new HalfCitizen();
+        for (int i = 0; i < 4; i++) {
+            Check.due("a long text", Check.tell(x, "street 4;land up 1 3;land b 2 2;bar up lhand;bar b rhand;fine 7;seed 3;"
+                    + "man al 1 north left 9;man bo 2 south right 3;deed al lhand hit 0;deed bo rhand sign 0;"
+                    + "law bind 1;law may 0;law tax 2;"), 14);
+            x.go(1);
+            x.move(0, 2);
+            x.print(0, 0, 0);
+            x.known(0);
+            Check.due("clashed", x.count(8), 2);
+            Check.due("a fault between", Check.tell(x, "land x 0 0;man x 0 west left 3;law bind 0;fine 1;;"), -1);
+            Check.due("a short text", Check.tell(x, "man c 1 north left 20;deed c rhand hit 0;deed c lhand hit 1;"
+                    + "land k 0 0;"), 4);
+            int[] counts = {8, 1, 1, 2, 0, 0, 0, 0, 0, 0, 20, 0, 0, 0, 0};
+            for (int k = 0; k < counts.length; k++) {
+                Check.due("count(" + k + ") of the short text", x.count(k), counts[k]);
+            }
+            Check.due("land(0)", x.land(0), 0);
+            Check.due("land(2)", x.land(2), -2);
+            Check.due("the name of a land ahead", x.named(0, Check.letters("up")), -1);
+            Check.due("the name of a man ahead", x.named(1, Check.letters("al")), -1);
+            Check.due("no bind", x.law(0, 0, 0, 0), Long.MIN_VALUE);
+            Check.due("hands", x.look(0, 2), 0);
+            Check.due("seized", x.look(0, 6), 0);
+            x.print(0, 0, 0);
+            Check.due("known by all", x.count(12), 1);
+            x.go(24);
+            Check.due("done", x.count(7), 1);
+            Check.due("clashed", x.count(8), 1);
+            Check.due("the fine of 5, no tax", x.look(0, 4), 15);
+        }
+    }
+
     private static void places() {
         Check.faulty("street", 1, 6);
         Check.faulty("street  \n", 1, 9);
@@ -123,6 +173,12 @@ public final class TextTest {
         Check.faulty("land a 8 8;", 2, 7);
         Check.faulty("street 12;land a 0 12;", 2, 19);
         Check.faulty("street 3;man a 3 north left 0;", 2, 15);
+        Check.faulty("man a 0 north left 100;", 2, 19);
+        Check.faulty("fine 100;", 2, 5);
+        Check.faulty("land a 3 2;", 2, 9);
+        Check.faulty(MAN + "deed a lhand hit 24;", 2, 38);
+        Check.due("the least of all", Check.tell(new HalfCitizen(), "seed 0;fine 0;street 2;land a 1 1;"
+                + "man a 0 north left 0;man b 1 west right 99;deed a lhand hit 23;law tax 0;"), 8);
         Check.faulty("seed 100000;", 2, 5);
         Check.due("the highest seed", Check.tell(new HalfCitizen(), "seed 99999;fine 99;street 12;"), 3);
         Check.due("zeros ahead", Check.tell(new HalfCitizen(), "fine 0000000000000000007;"), 1);
@@ -167,6 +223,7 @@ public final class TextTest {
 
     private static void notTold() {
         Check.faulty(MAN + "street 5;", 4, 21);
+        Check.faulty("land a 0 0;street 5;", 4, 11);
         Check.faulty("land a 0 0;deed a lhand hit 0;", 4, 16);
         Check.faulty(MAN + "bar a lhand;", 4, 25);
         Check.faulty("deed a lhand hit 0;" + MAN, 4, 5);

@@ -93,5 +93,10 @@ public final class TrialTest {
         Check.due("nothing is seized any more", x.tried(4, 0), 3);
         x.go(18);
         Check.due("the day is over", x.tried(0, 0), 3);
+        HalfCitizen y = Check.told("man a 2 west left 0;deed a rhand hit 3;law bind 1;law may face=0;"
+                + "man b 2 south left 0;deed b rhand hit 3;");
+        Check.due("both turned north", y.tried(5, 0), 2);
+        Check.due("nobody turned", y.look(0, 1) * 10 + y.look(1, 1), 32);
+        Check.due("as it is", y.tried(1, 0), 0);
     }
 }
