@@ -1204,7 +1204,6 @@ public final class HalfCitizen {
 
         void begin(int rule) {
             from[rule] = size;
-            to[rule] = size;
         }
 
         void end(int rule) {

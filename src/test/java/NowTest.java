@@ -167,8 +167,11 @@ public final class NowTest {
         Check.due("no bind", y.law(0, 0, 0, 0), ERROR);
         Check.due("deed of tax is 0", y.law(2, 0, 0, 3), 0);
         Check.due("deed of may", y.law(1, 0, 2, 3), 32);
-        y.go(24);
-        Check.due("hour 24", Check.told("man a 0 north left 0;law tax hour;").law(2, 0, 0, 0), 0);
+        HalfCitizen z = Check.told("man a 0 north left 0;law tax hour;");
+        for (int hour = 0; hour <= 24; hour++) {
+            Check.due("hour of now", z.law(2, 0, 0, 0), hour);
+            z.go(1);
+        }
     }
 
     private static void values() {
@@ -181,6 +184,10 @@ public final class NowTest {
         value("4096*4096*4096*16*4096*4096*4096", ERROR);
         value("(0-8000)*8000*(0-8000)", 512000000000L);
         value("9999*9999*9999*0", 0);
+        value("1000*1000*1000*1000", 1000000000000L);
+        value("1000*1000*1000*1001", ERROR);
+        value("1000*1000*1000*(0-1000)", -1000000000000L);
+        value("(0-1000)*1000*1000*1001", ERROR);
         value("1-9999*9999*9999*1", -999700029998L);
         value("7/2", 3);
         value("(0-7)/2", -3);
@@ -211,13 +218,13 @@ public final class NowTest {
         value("2+3*4", 14);
         value("100/5/2", 10);
         value("100/5*2", 40);
-        value("part*1000000", 3000000);
+        value("part*1000*1000", 3000000);
+        value("side+where*10", 91);
     }
 
     private static void value(String sentence, long want) {
-        String told = sentence.equals("part*1000000") ? "part*1000*1000" : sentence;
-        HalfCitizen x = Check.told("man a 0 north left 0;law tax " + told + ";");
-        Check.due(told, x.law(2, 0, 3, 0), want);
+        HalfCitizen x = Check.told("man a 0 north left 0;law tax " + sentence + ";");
+        Check.due(sentence, x.law(2, 0, 3, 0), want);
     }
 
     private static void deed() {

@@ -162,6 +162,15 @@ public final class TextTest {
         Check.faulty(MAN + "deed a left hit 0;", 1, 28);
         Check.faulty(MAN + "deed a lhand may 0;", 1, 34);
         Check.faulty("land a 1 1;bar a pass;", 1, 17);
+        String[] early = {"street", "land", "land a", "land a 0", "man", "man a", "man a 0", "man a 0 east",
+            "man a 0 east left", "deed", MAN + "deed a", MAN + "deed a lfoot", MAN + "deed a lfoot sign", "bar",
+            "land a 0 0;bar a", "fine", "seed", "law", "law may", "law tax 1 or", "law tax 1 and", "law tax not",
+            "law tax 1<", "law tax 1+", "law tax 1-", "law tax 1*", "law tax 1/", "law tax (", "law tax (1"};
+        for (String line : early) {
+            Check.faulty(line + ";", 1, line.length());
+            Check.faulty(line, 1, line.length());
+            Check.faulty(line + " ", 1, line.length() + 1);
+        }
         Check.faulty("law bind;", 1, 8);
         Check.faulty("law deed 1;", 1, 4);
         Check.faulty("law", 1, 3);
