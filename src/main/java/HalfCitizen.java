@@ -245,11 +245,11 @@ public final class HalfCitizen {
     }
 
     public int way(int man, int part, int kind, int k) {
-        if (!isMan(man) || !isPart(part) || !isKind(kind)) {
+        if (!isMan(man) || !isPart(part) || !isKind(kind) || k < 0) {
             return NONE;
         }
         int target = nearestLawful(man, part, kind);
-        if (target == NONE || k < 0 || k >= walks.far[target]) {
+        if (target == NONE || k >= walks.far[target]) {
             return NOT_THERE;
         }
         return walks.moveTo(target, k);
@@ -298,12 +298,12 @@ public final class HalfCitizen {
     }
 
     public int loophole(int man, int kind, int k) {
-        if (!isMan(man) || !isKind(kind)) {
+        if (!isMan(man) || !isKind(kind) || k < 0) {
             return NONE;
         }
         int closed = closedParts(man, kind);
         int left = k;
-        for (int state = 0; state < told.states() && left >= 0; state++) {
+        for (int state = 0; state < told.states(); state++) {
             if ((rules.lawfulParts(man, state, kind, now.hour) & closed) != 0) {
                 if (left == 0) {
                     return state;
@@ -342,12 +342,12 @@ public final class HalfCitizen {
     }
 
     public int rest(int one, int other, int k) {
-        if (!isMan(one) || !isMan(other) || one == other) {
+        if (!isMan(one) || !isMan(other) || one == other || k < 0) {
             return NONE;
         }
         duel.weigh(rules, now, one, other);
         int left = k;
-        for (int pair = 0; pair < FACES * FACES && left >= 0; pair++) {
+        for (int pair = 0; pair < FACES * FACES; pair++) {
             if (duel.isRest(pair)) {
                 if (left == 0) {
                     return pair / FACES * 10 + pair % FACES;

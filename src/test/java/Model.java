@@ -682,11 +682,11 @@ final class Model {
     }
 
     int way(int man, int part, int kind, int k) {
-        if (!man(man) || !four(part) || !four(kind)) {
+        if (!man(man) || !four(part) || !four(kind) || k < 0) {
             return -1;
         }
         String row = row(man, part, kind);
-        return row == null || k < 0 || k >= row.length() ? -2 : row.charAt(k) - '0';
+        return row == null || k >= row.length() ? -2 : row.charAt(k) - '0';
     }
 
     List<State> all() {
@@ -782,11 +782,11 @@ final class Model {
     }
 
     int loophole(int man, int kind, int k) {
-        if (!man(man) || !four(kind)) {
+        if (!man(man) || !four(kind) || k < 0) {
             return -1;
         }
         List<State> holes = holes(man, kind, 0);
-        return k < 0 || k >= holes.size() ? -2 : all().indexOf(holes.get(k));
+        return k >= holes.size() ? -2 : all().indexOf(holes.get(k));
     }
 
     int shut(int man, int kind) {
@@ -847,11 +847,11 @@ final class Model {
     }
 
     int rest(int one, int other, int k) {
-        if (!man(one) || !man(other) || one == other) {
+        if (!man(one) || !man(other) || one == other || k < 0) {
             return -1;
         }
         List<Integer> found = restList(one, other);
-        return k < 0 || k >= found.size() ? -2 : found.get(k);
+        return k >= found.size() ? -2 : found.get(k);
     }
 
     int freed(int man) {

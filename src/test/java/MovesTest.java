@@ -114,9 +114,12 @@ public final class MovesTest {
         Check.due("crosses first", x.way(0, 0, 2, 0), 2);
         Check.due("then a step", x.way(0, 0, 2, 1), 5);
         Check.due("no third", x.way(0, 0, 2, 2), -2);
-        Check.due("none below 0", x.way(0, 0, 2, -1), -2);
+        Check.due("far too many", x.way(0, 0, 2, Integer.MAX_VALUE), -2);
+        Check.due("no such k", x.way(0, 0, 2, -1), -1);
+        Check.due("none so low", x.way(0, 0, 2, Integer.MIN_VALUE), -1);
         Check.due("none to make", x.fewest(0, 1, 2), 0);
         Check.due("no move then", x.way(0, 1, 2, 0), -2);
+        Check.due("no such k of none to make", x.way(0, 1, 2, -1), -1);
         x.move(0, 0);
         Check.due("two from the east", x.fewest(0, 0, 0), 2);
         Check.due("turns first", x.way(0, 0, 0, 0), 0);
@@ -129,6 +132,7 @@ public final class MovesTest {
         HalfCitizen y = Check.told("man a 2 north left 9;law bind 1;law may hour>0 and cross;deed a rhand hit 0;");
         Check.due("not at this hour", y.fewest(0, 1, 2), -2);
         Check.due("no way", y.way(0, 1, 2, 0), -2);
+        Check.due("no way, and no such k", y.way(0, 1, 2, -1), -1);
         y.go(1);
         Check.due("at the next, seized or not", y.fewest(0, 1, 2), 1);
         Check.due("by crossing hands", y.way(0, 1, 2, 0), 2);

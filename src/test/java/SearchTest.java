@@ -61,7 +61,9 @@ public final class SearchTest {
         Check.due("then east", x.loophole(0, 3, 18), 20);
         Check.due("the last", x.loophole(0, 3, 35), 3 * 16 + 2 * 4 + 2);
         Check.due("no more", x.loophole(0, 3, 36), -2);
-        Check.due("none below 0", x.loophole(0, 3, -1), -2);
+        Check.due("far too many", x.loophole(0, 3, Integer.MAX_VALUE), -2);
+        Check.due("no such k", x.loophole(0, 3, -1), -1);
+        Check.due("none so low", x.loophole(0, 3, Integer.MIN_VALUE), -1);
         x.move(0, 3);
         Check.due("as the text begins, not as now", x.loopholes(0, 3), 36);
         int[][] none = {{-1, 0}, {1, 0}, {0, -1}, {0, 4}};
@@ -72,6 +74,8 @@ public final class SearchTest {
         }
         HalfCitizen y = Check.told("street 2;man a 0 north left 0;law bind 1;law may face=1 and hour=3;");
         Check.due("not at this hour", y.loopholes(0, 0), 0);
+        Check.due("not even a first", y.loophole(0, 0, 0), -2);
+        Check.due("no such k where there are none", y.loophole(0, 0, -1), -1);
         y.go(3);
         Check.due("by facing east", y.loopholes(0, 0), 8);
         Check.due("in the second cell", y.loophole(0, 0, 4), 16 + 4);
@@ -96,7 +100,9 @@ public final class SearchTest {
             Check.due("rest " + k, x.rest(0, 1, k), due[k]);
         }
         Check.due("no more", x.rest(0, 1, due.length), -2);
-        Check.due("none below 0", x.rest(0, 1, -1), -2);
+        Check.due("far too many", x.rest(0, 1, Integer.MAX_VALUE), -2);
+        Check.due("no such k", x.rest(0, 1, -1), -1);
+        Check.due("none so low", x.rest(0, 1, Integer.MIN_VALUE), -1);
         x.move(0, 2);
         x.move(0, 5);
         x.move(0, 5);
