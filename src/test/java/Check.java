@@ -49,6 +49,34 @@ final class Check {
         return x;
     }
 
+    /** All that can be looked at without changing something, as one text; it takes some 120 calls. */
+    static String all(HalfCitizen x) {
+        return allButUndo(x) + " " + x.count(13);
+    }
+
+    /** The same, but for how many can be undone. */
+    static String allButUndo(HalfCitizen x) {
+        StringBuilder all = new StringBuilder();
+        for (int what = 0; what < 15; what++) {
+            all.append(what == 13 ? 0 : x.count(what)).append(' ');
+        }
+        for (int man = 0; man < x.count(2); man++) {
+            for (int what = 0; what < 7; what++) {
+                all.append(x.look(man, what)).append(' ');
+            }
+            for (int part = 0; part < 4; part++) {
+                all.append(x.lawful(man, part, 2)).append(x.law(2, man, part, 0)).append(' ');
+            }
+        }
+        for (int deed = 0; deed < x.count(3); deed++) {
+            all.append(x.deed(deed, 4)).append(' ');
+        }
+        for (int cell = 0; cell < x.count(0); cell++) {
+            all.append(x.land(cell)).append(' ');
+        }
+        return all.append(x.whose()).append(' ').append(x.clash()).toString();
+    }
+
     static void faulty(String text, int fault, int place) {
         HalfCitizen x = new HalfCitizen();
         due("text of " + text, tell(x, text), HalfCitizen.NONE);

@@ -3,7 +3,7 @@ import java.util.Random;
 
 /** Random runs of at most 512 calls, in which the program and the model are asked the same. */
 public final class RandomTest {
-    private static final int RUNS = 150;
+    private static final int RUNS = 320;
     private static final String[] WORDS = ("street land man deed bar fine seed law north east south west left right lhand "
             + "rhand lfoot rfoot hold sign hit pass bind may tax or and not part side where face cross hour a b c d e "
             + "streets ; ; ; ( ) < <= = <> >= > + - * / 0 1 5 12 24 100 10000 ! # \n").split(" ");
@@ -33,12 +33,12 @@ public final class RandomTest {
 
     private void play() {
         int calls = 0;
-        while (calls < 480) {
+        while (calls < 470) {
             if (calls == 0 || random.nextInt(90) == 0) {
                 calls += tellText();
             } else {
                 ask();
-                calls++;
+                calls += 2;
             }
         }
     }
