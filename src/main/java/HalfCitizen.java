@@ -1004,7 +1004,7 @@ public final class HalfCitizen {
         }
 
         /** An E, with so many '(' open around it. */
-        boolean readEither(int open) {
+        private boolean readEither(int open) {
             if (!readBoth(open)) {
                 return false;
             }
@@ -1459,8 +1459,9 @@ public final class HalfCitizen {
             return state & ~12 | (face & 3) << 2;
         }
 
+        /** Calls nothing itself: what asks for it is deep in calls already. */
         static int crossOf(int state, int part) {
-            return part < HANDS ? handsOf(state) : feetOf(state);
+            return (part < HANDS ? state >> 1 : state) & 1;
         }
 
         static int placeOf(int state, int part) {
